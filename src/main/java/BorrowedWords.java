@@ -4,7 +4,7 @@ public final class BorrowedWords {
 
     private static final int MOST_TEXTS = 10, MOST_WORDS = 60, MOST_MARKS = 30;
     private static final int MOST_RULES = 8, MOST_BYTES = 120, MOST_CLAUSES = 8, MOST_FIGURES = 3;
-    private static final int LAST_WRITER = 9, LAST_DAY = 999, LAST_WORD = 200, LONGEST_ROW = 5;
+    private static final int LAST_WRITER = 9, LAST_DAY = 999, LAST_WORD = 200, LONGEST_ROW = 5, MOST_SLIPS = 3;
 
     private static final int LEAST = 0, SLIPS = 1, MEAN = 2, COMMON = 3, FREE = 4, LIGHT = 5, HEAVY = 6;
     /** How many clauses set something; the one kind behind them strikes a rule. */
@@ -212,7 +212,7 @@ public final class BorrowedWords {
         switch (what) {
             case 0: return takenCount();
             case 1: return borrowedCount(x);
-            case 2: return shareOf(x);
+            case 2: return shareOf(x, borrowedCount(x));
             default: return verdictOn(x);
         }
     }
@@ -333,16 +333,17 @@ public final class BorrowedWords {
         return Long.bitCount(explanation.taken & ~marks.rightPlaces(x));
     }
 
-    private int shareOf(int x) {
+    private int shareOf(int x, int borrowed) {
         int words = shelf.texts[x].size;
-        return words == 0 ? 0 : borrowedCount(x) * 100 / words;
+        return words == 0 ? 0 : borrowed * 100 / words;
     }
 
     private int verdictOn(int x) {
         if (takenCount() == 0) return VERDICT_OWN;
-        if (borrowedCount(x) == 0) return VERDICT_CITED;
+        int borrowed = borrowedCount(x);
+        if (borrowed == 0) return VERDICT_CITED;
         int day = shelf.texts[x].day;
-        int share = shareOf(x);
+        int share = shareOf(x, borrowed);
         if (share >= book.holding(HEAVY, day)) return VERDICT_HEAVY;
         return share <= book.holding(LIGHT, day) ? VERDICT_LIGHT : VERDICT_MIXED;
     }
@@ -722,12 +723,17 @@ public final class BorrowedWords {
         private final RuleBook book;
         /** Of source y and place i: as bits the sizes of runs that begin there. */
         private final long[][] sizes = new long[MOST_TEXTS][MOST_WORDS];
+        /** Words are like, if their keys are the same. */
         private final int[] keys = new int[MOST_WORDS];
-        private final int[] sourceKeys = new int[MOST_WORDS];
-        private final boolean[] isOwn = new boolean[MOST_WORDS];
+        /** How many words ahead of a place are not common. */
+        private final int[] ownAhead = new int[MOST_WORDS + 1];
+        /** As bits, of a key and of a place: where the source that the text is held against has a like word. */
+        private final long[] placesOfKey = new long[LAST_WORD + 1];
+        private final long[] likes = new long[MOST_WORDS];
+        /** As bits, by the number of slips so far: the places from which on the source goes along. */
+        private final long[] along = new long[MOST_SLIPS + 1];
         private int looked = NONE;
         private int size;
-        private int sourceSize;
         private int least;
         private int slips;
         private boolean byMeaning;
@@ -768,44 +774,63 @@ public final class BorrowedWords {
             byMeaning = book.holding(MEAN, text.day) == 1;
             commonsCount = book.holding(COMMON, text.day) == 1;
             size = text.size;
+            ownAhead[0] = 0;
             for (int i = 0; i < size; i++) {
-                keys[i] = keyOf(text.words[i]);
-                isOwn[i] = !lexicon.isCommon[text.words[i]];
+                int w = text.words[i];
+                keys[i] = keyOf(w);
+                ownAhead[i + 1] = ownAhead[i] + (lexicon.isCommon[w] ? 0 : 1);
             }
         }
 
-        private void holdAgainst(int y) {
-            Text source = shelf.texts[y];
-            sourceSize = source.size;
-            for (int j = 0; j < sourceSize; j++) sourceKeys[j] = keyOf(source.words[j]);
-        }
-
-        /** Words are like, if their keys are the same. */
         private int keyOf(int w) {
             return byMeaning ? lexicon.meaning[w] : w;
         }
 
+        /** Keys that the text has not are left as they are: they are never asked for. */
+        private void holdAgainst(int y) {
+            Text source = shelf.texts[y];
+            for (int i = 0; i < size; i++) placesOfKey[keys[i]] = 0;
+            for (int j = 0; j < source.size; j++) placesOfKey[keyOf(source.words[j])] |= 1L << j;
+            for (int i = 0; i < size; i++) likes[i] = placesOfKey[keys[i]];
+        }
+
         private long sizesAt(int i) {
             long found = 0;
-            for (int j = 0; j < sourceSize; j++) {
-                if (keys[i] == sourceKeys[j]) found |= sizesOfPair(i, j);
+            begin(i);
+            for (int n = 2; n <= size - i && goesAlong(); n++) {
+                if (extend(i, n) != 0 && n >= least && isOwnEnough(i, n)) found |= 1L << n;
             }
             return found;
         }
 
-        /** As bits: the sizes of runs from i and j on, which are like. */
-        private long sizesOfPair(int i, int j) {
-            long found = 0;
-            int most = Math.min(size - i, sourceSize - j);
-            int slipped = 0;
-            int own = 0;
-            for (int n = 1; n <= most && slipped <= slips; n++) {
-                boolean like = keys[i + n - 1] == sourceKeys[j + n - 1];
-                if (!like) slipped++;
-                if (isOwn[i + n - 1]) own++;
-                if (like && n >= least && (commonsCount || own >= n / 2)) found |= 1L << n;
+        /** A run begins with a like word: the source goes along from each place that has one. */
+        private void begin(int i) {
+            for (int slipped = 0; slipped <= MOST_SLIPS; slipped++) along[slipped] = 0;
+            along[0] = likes[i];
+        }
+
+        private boolean goesAlong() {
+            return (along[0] | along[1] | along[2] | along[3]) != 0;
+        }
+
+        /**
+         * From n - 1 words to n: as bits the places from which on they may be a run, as the last one is like, too.
+         * All places go at once, as behind the end of the source no word is like.
+         */
+        private long extend(int i, int n) {
+            long like = likes[i + n - 1] >>> (n - 1);
+            long ending = 0;
+            for (int slipped = slips; slipped >= 0; slipped--) {
+                long slipping = slipped == 0 ? 0 : along[slipped - 1] & ~like;
+                long staying = along[slipped] & like;
+                along[slipped] = staying | slipping;
+                ending |= staying;
             }
-            return found;
+            return ending;
+        }
+
+        private boolean isOwnEnough(int i, int n) {
+            return commonsCount || ownAhead[i + n] - ownAhead[i] >= n / 2;
         }
 
         long sizesWithin(int i, int set) {
@@ -833,8 +858,11 @@ public final class BorrowedWords {
         int leastPlace(int y, int i, int n) {
             if (!shelf.has(y)) return NONE;
             holdAgainst(y);
-            for (int j = 0; j < sourceSize; j++) {
-                if (keys[i] == sourceKeys[j] && (sizesOfPair(i, j) >>> n & 1L) != 0) return j;
+            begin(i);
+            long ending = 0;
+            for (int m = 2; m <= n; m++) ending = extend(i, m);
+            for (int j = 0; j < shelf.texts[y].size; j++) {
+                if ((ending >>> j & 1L) != 0) return j;
             }
             return NONE;
         }

@@ -79,6 +79,9 @@ final class LikenessTest {
         due.is("texts without rows are not alike", b.family(5, 1, 1), 5);
         due.is("but by nothing they are", b.family(5, 5, 0), 0);
         BorrowedWords whole = Due.with("", Due.words(1, 2), Due.words(3), Due.words(2, 1, 1));
+        BorrowedWords thirds = Due.with("", Due.words(1, 2, 3), Due.words(1, 2));
+        due.is("two thirds are 66 hundredths or more", thirds.family(1, 1, 66), 0);
+        due.is("but not 67", thirds.family(1, 1, 67), 1);
         due.is("a hundred hundredths", whole.family(2, 1, 100), 0);
         due.is("a hundred hundredths, alone", whole.family(1, 1, 100), 1);
         BorrowedWords late = Due.with("", Due.words(1), Due.words(2), Due.words(3, 4), Due.words(1, 3), Due.words(2, 4), Due.words(1, 2));

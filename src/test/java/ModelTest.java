@@ -15,15 +15,19 @@ final class ModelTest {
     private final int letters;
     private final int seed;
 
-    private ModelTest(int seed) {
+    private final int longest;
+
+    private ModelTest(int seed, int longest) {
         this.seed = seed;
+        this.longest = longest;
         random = new Random(seed);
-        letters = 2 + random.nextInt(7);
+        letters = longest > 12 ? 2 + random.nextInt(40) : 2 + random.nextInt(7);
     }
 
     public static void main(String[] args) {
         int runs = args.length > 0 ? Integer.parseInt(args[0]) : 1500;
-        for (int seed = 0; seed < runs; seed++) new ModelTest(seed).run();
+        for (int seed = 0; seed < runs; seed++) new ModelTest(seed, 12).run();
+        for (int seed = 0; seed < runs / 50; seed++) new ModelTest(seed, 60).run();
         due.end();
     }
 
@@ -51,11 +55,11 @@ final class ModelTest {
 
     private void build() {
         if (random.nextInt(4) > 0) rule(clauses(1 + random.nextInt(4)), random.nextInt(3));
-        int texts = 1 + random.nextInt(5);
+        int texts = longest > 12 ? 10 : 1 + random.nextInt(5);
         for (int x = 0; x < texts; x++) {
             int day = random.nextInt(6);
             is("text", b.text(x, day), m.text(x, day));
-            for (int parts = random.nextInt(4); parts > 0 && m.about(x, 2) < 12; parts--) {
+            for (int parts = random.nextInt(longest / 3); parts > 0 && m.about(x, 2) < longest; parts--) {
                 if (x > 0 && random.nextBoolean()) copy(x);
                 else for (int n = random.nextInt(6); n > 0; n--) word(x);
             }
@@ -66,11 +70,11 @@ final class ModelTest {
         int x = some(texts());
         switch (random.nextInt(11)) {
             case 0, 1 -> {
-                if (m.about(x, 2) < 12) word(x);
+                if (longest > 12 || m.about(x, 2) < longest) word(x);
             }
             case 2 -> is("stop", b.stop(x), m.stop(x));
             case 3 -> {
-                if (m.about(x, 2) < 10) copy(x);
+                if (longest > 12 || m.about(x, 2) < longest - 2) copy(x);
             }
             case 4 -> {
                 int v = some(letters + 1), w = some(letters + 1);
@@ -83,7 +87,7 @@ final class ModelTest {
             }
             case 6, 7 -> {
                 int y = random.nextInt(5) == 0 ? -1 : some(texts());
-                int i = some(m.about(x, 2)), j = i + random.nextInt(3);
+                int i = some(m.about(x, 2)), j = i + random.nextInt(longest > 12 ? 20 : 3);
                 is("mark", b.mark(x, i, j, y), m.mark(x, i, j, y));
             }
             case 8 -> rule(clauses(1 + random.nextInt(9)), some(10));
@@ -102,7 +106,7 @@ final class ModelTest {
     }
 
     private void copy(int x) {
-        int y = some(texts()), i = some(m.about(y, 2)), j = i + random.nextInt(5);
+        int y = some(texts()), i = some(m.about(y, 2)), j = i + random.nextInt(longest > 12 ? 20 : 5);
         is("copy", b.copy(x, y, i, j), m.copy(x, y, i, j));
     }
 

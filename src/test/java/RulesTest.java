@@ -92,6 +92,9 @@ final class RulesTest {
         reads("leas 4;", 1, 0);
         reads("leastt 4;", 1, 0);
         reads("le ast 4;", 1, 0);
+        reads("leastz 4;", 1, 0);
+        reads("heast 4;", 1, 0);
+        reads("mean zo;", 1, 5);
         reads("least_4;", 1, 5);
         reads("Least 4;", 1, 0);
         reads("least\t4;", 1, 5);

@@ -125,6 +125,12 @@ final class TakenTest {
         due.is("not the greatest at first", fewer.piece(3, 4, Due.NONE, 0), 2);
         due.is("first of the fewest", fewer.piece(3, 4, 0, 1), 3);
         due.is("from the first source", fewer.piece(3, 4, 1, 2), 1);
+        BorrowedWords two = Due.with("least 2;slips 1;", Due.words(1, 2, 3), Due.words(3, 99, 5, 6, 7), Due.words(4, 5), Due.words(1, 2, 3, 4, 5, 6, 7));
+        due.is("all is taken", two.judged(3, 4, 0), 7);
+        due.is("fewer pieces ahead of a greater first one", two.piece(3, 4, Due.NONE, 0), 2);
+        due.is("a smaller first one", two.piece(3, 4, 0, 1), 2);
+        due.is("a greater second one", two.piece(3, 4, 1, 1), 5);
+        due.is("more words ahead of a greater first one", Due.with("least 2;", Due.words(1, 2, 3), Due.words(3, 4), Due.words(1, 2, 3, 4)).piece(2, 3, 0, 1), 2);
         BorrowedWords early = Due.with("least 3;", Due.words(1, 2, 3), Due.words(3, 4, 5), Due.words(1, 2, 3, 4, 5));
         due.is("the earlier one of like ones", early.piece(2, 3, 0, 0), 0);
         due.is("one alone", early.piece(2, 3, Due.NONE, 0), 1);

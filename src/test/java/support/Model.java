@@ -1,11 +1,13 @@
 import java.util.ArrayList;
+import java.util.HashMap;
 import java.util.HashSet;
 import java.util.LinkedHashSet;
 import java.util.List;
+import java.util.Map;
 import java.util.Set;
 import java.util.TreeSet;
 
-/** The document's words in the plainest way: all is tried, nothing is kept that was worked out. Small texts only. */
+/** The document's words in the plainest way: in small texts all explanations are tried, in greater ones the best of each rest. */
 final class Model {
     private static final int NONE = -1, UNKNOWN = -1001, OUTSIDE = -1002, NOT = -1003, FULL = -1004;
 
@@ -32,6 +34,11 @@ final class Model {
     private final List<Rule> rules = new ArrayList<>();
     private final StringBuilder fed = new StringBuilder();
     private int faultAt = NONE;
+    /** What was worked out since the latest change: what holds on a day, the least places of runs. */
+    private final Map<Integer, Integer> held = new HashMap<>();
+    private final Map<Integer, Integer> places = new HashMap<>();
+
+    private static final int SMALL = 12;
 
     private boolean un(int x) {
         return x < 0 || x >= texts.size();
@@ -45,6 +52,11 @@ final class Model {
         return texts.get(x).words.size();
     }
 
+    private void forget() {
+        held.clear();
+        places.clear();
+    }
+
     // ---- texts
 
     int text(int writer, int day) {
@@ -54,6 +66,7 @@ final class Model {
         t.writer = writer;
         t.day = day;
         texts.add(t);
+        forget();
         return texts.size() - 1;
     }
 
@@ -62,6 +75,7 @@ final class Model {
         if (out(w, 1, 200)) return OUTSIDE;
         if (size(x) == 60) return FULL;
         texts.get(x).words.add(w);
+        forget();
         return size(x);
     }
 
@@ -114,12 +128,14 @@ final class Model {
         if (out(v, 1, 200) || out(w, 1, 200)) return OUTSIDE;
         if (meaning(v).contains(w)) return NOT;
         meanings.add(new int[] {v, w});
+        forget();
         return meaning(v).size();
     }
 
     int common(int w, boolean is) {
         if (out(w, 1, 200)) return OUTSIDE;
         int was = commons.contains(w) ? 1 : 0;
+        forget();
         if (is) commons.add(w);
         else commons.remove(w);
         return was;
@@ -197,6 +213,7 @@ final class Model {
         }
         faultAt = NONE;
         rules.add(new Rule(day, clauses));
+        forget();
         return rules.size() - 1;
     }
 
@@ -226,6 +243,12 @@ final class Model {
     }
 
     private int holds(int what, int day) {
+        Integer known = held.get(what * 1000 + day);
+        if (known == null) held.put(what * 1000 + day, known = holdsAnew(what, day));
+        return known;
+    }
+
+    private int holdsAnew(int what, int day) {
         Set<Integer> counting = new HashSet<>();
         for (int r = rules.size() - 1; r >= 0; r--) {
             boolean struck = false;
@@ -267,6 +290,7 @@ final class Model {
         for (int m = 0; m < n; m++) {
             int a = texts.get(x).words.get(i + m), b = texts.get(y).words.get(j + m);
             like[m] = a == b || holds(2, day) == 1 && meaning(a).contains(b);
+            if (m == 0 && !like[m]) return false;
             if (!like[m]) unlike++;
             if (!commons.contains(a)) own++;
         }
@@ -277,9 +301,17 @@ final class Model {
     /** The first source and the least place with which these words are a run; null: with none. */
     private Spot from(int x, Set<Integer> set, int i, int n) {
         for (int y : set) {
-            for (int j = 0; j < size(y); j++) if (isRun(x, y, i, j, n)) return new Spot(y, j);
+            int key = ((x * 10 + y) * 60 + i) * 61 + n;
+            Integer j = places.get(key);
+            if (j == null) places.put(key, j = leastPlace(x, y, i, n));
+            if (j != NONE) return new Spot(y, j);
         }
         return null;
+    }
+
+    private int leastPlace(int x, int y, int i, int n) {
+        for (int j = 0; j < size(y); j++) if (isRun(x, y, i, j, n)) return j;
+        return NONE;
     }
 
     private int refused(int x, int k) {
@@ -302,14 +334,29 @@ final class Model {
         return what == 0 ? 0 : NONE;
     }
 
-    /** All explanations are made, and the best of them is kept. */
     private List<Piece> explanation(int x, Set<Integer> set) {
         List<Piece> possible = new ArrayList<>();
         for (int i = 0; i < size(x); i++) {
             for (int n = 1; n <= size(x) - i; n++) if (from(x, set, i, n) != null) possible.add(new Piece(i, n));
         }
+        if (size(x) > SMALL) return bestOfEachRest(size(x), possible);
         List<List<Piece>> best = new ArrayList<>(List.of(new ArrayList<>()));
         tryAll(possible, 0, new ArrayList<>(), best);
+        return best.get(0);
+    }
+
+    private static List<Piece> bestOfEachRest(int size, List<Piece> possible) {
+        List<List<Piece>> best = new ArrayList<>();
+        for (int i = 0; i <= size; i++) best.add(new ArrayList<>());
+        for (int i = size - 1; i >= 0; i--) {
+            best.set(i, best.get(i + 1));
+            for (Piece p : possible) {
+                if (p.i() != i) continue;
+                List<Piece> with = new ArrayList<>(List.of(p));
+                with.addAll(best.get(i + p.size()));
+                if (better(with, best.get(i))) best.set(i, with);
+            }
+        }
         return best.get(0);
     }
 
