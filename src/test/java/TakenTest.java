@@ -78,6 +78,12 @@ final class TakenTest {
         due.is("all of it is taken", far.judged(1, 2, 0), 5);
         BorrowedWords four = Due.with("slips 3;least 2;", Due.words(1, 2, 3, 4, 5, 6), Due.words(1, 9, 9, 9, 9, 6));
         due.is("four slips between", four.reach(1, 2, 0, 0), 0);
+        BorrowedWords apart = Due.with("slips 3;least 2;", Due.words(1, 3, 9, 9), Due.words(1, 2, 3, 4));
+        due.is("slips of one place are not those of the next", apart.reach(1, 2, 1, 0), 0);
+        BorrowedWords last = Due.with("least 2;mean yes;", Due.words(199, 200, 1), Due.words(198, 199, 200, 200));
+        due.is("the last words of all", last.reach(1, 2, 1, 0), 2);
+        last.same(200, 1);
+        due.is("the last words of all by meaning", last.reach(1, 2, 1, 0), 3);
     }
 
     private static void commonWords() {
