@@ -191,7 +191,8 @@ public final class BorrowedWords {
     public int piece(int x, int k, int p, int what) {
         int refusal = refusalOfLook(x, k);
         if (refusal != 0) return refusal;
-        if (what < 0 || what > 3) return OUTSIDE;
+        // Where the pieces are counted, what says nothing, so no number of it is out of bounds.
+        if (p != NONE && (what < 0 || what > 3)) return OUTSIDE;
         int set = sourcesLookedAt(x, k);
         explanation.explain(set);
         if (p == NONE) return explanation.pieces;

@@ -107,7 +107,12 @@ final class TakenTest {
     private static void pieces() {
         BorrowedWords b = Due.with("least 2;", Due.words(1, 2, 3, 9, 4, 5), Due.words(3, 4, 5, 6), Due.words(7, 1, 2, 3, 4, 5, 6, 7));
         due.is("two pieces", b.piece(2, 3, Due.NONE, 0), 2);
-        due.is("two pieces, whatever what", b.piece(2, 3, Due.NONE, 3), 2);
+        int[] whats = {-1, 3, 4, Integer.MIN_VALUE, Integer.MAX_VALUE};
+        for (int what : whats) {
+            due.is("two pieces, what " + what, b.piece(2, 3, Due.NONE, what), 2);
+            due.is("no pieces, what " + what, b.piece(0, 3, Due.NONE, what), 0);
+            due.is("no pieces without sources, what " + what, b.piece(2, 0, Due.NONE, what), 0);
+        }
         int[][] want = {{1, 3, 0, 0}, {4, 3, 1, 1}};
         for (int p = 0; p < 2; p++) {
             for (int what = 0; what < 4; what++) due.is("piece " + p + ", " + what, b.piece(2, 3, p, what), want[p][what]);
@@ -254,7 +259,12 @@ final class TakenTest {
         due.is("reach what -1", b.reach(1, 2, 0, -1), Due.OUTSIDE);
         due.is("reach what 3", b.reach(1, 2, 0, 3), Due.OUTSIDE);
         due.is("piece what -1", b.piece(1, 2, 0, -1), Due.OUTSIDE);
-        due.is("piece what 4", b.piece(1, 2, 9, 4), Due.OUTSIDE);
+        due.is("piece what 4", b.piece(1, 2, 0, 4), Due.OUTSIDE);
+        due.is("piece what 4 of one that there is not", b.piece(1, 2, 9, 4), Due.OUTSIDE);
+        due.is("piece what -1 of one that there is not", b.piece(1, 2, -2, -1), Due.OUTSIDE);
+        due.is("how many pieces of no text", b.piece(2, 0, Due.NONE, -1), Due.UNKNOWN);
+        due.is("how many pieces by -1", b.piece(1, -1, Due.NONE, -1), Due.OUTSIDE);
+        due.is("how many pieces by 3", b.piece(1, 3, Due.NONE, 4), Due.OUTSIDE);
         due.is("judged what -1", b.judged(1, 2, -1), Due.OUTSIDE);
         due.is("judged what 4", b.judged(1, 2, 4), Due.OUTSIDE);
     }

@@ -389,9 +389,9 @@ final class Model {
     int piece(int x, int k, int p, int what) {
         int refused = refused(x, k);
         if (refused != 0) return refused;
-        if (out(what, 0, 3)) return OUTSIDE;
         List<Piece> pieces = explanation(x, sourceSet(x, k));
         if (p == NONE) return pieces.size();
+        if (out(what, 0, 3)) return OUTSIDE;
         if (out(p, 0, pieces.size() - 1)) return NONE;
         Piece q = pieces.get(p);
         Spot spot = from(x, sourceSet(x, k), q.i(), q.size());
