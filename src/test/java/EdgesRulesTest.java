@@ -218,6 +218,10 @@ final class EdgesRulesTest {
         reads("least{4;", 1, 5);
         reads("LEAST 4;", 1, 0);
         reads("leasT 4;", 1, 0);
+        reads("aeast 4;", 1, 0);
+        reads("leasa 4;", 1, 0);
+        reads("mean zes;", 1, 5);
+        reads("mean na;", 1, 5);
         reads("zleast 4;", 1, 0);
         reads("aleast 4;", 1, 0);
         reads("leasta 4;", 1, 0);
@@ -388,6 +392,13 @@ final class EdgesRulesTest {
         Due.rule(all, "strike 0;strike 1;strike 2;strike 3;strike 4;strike 5;strike 6;", 1);
         edges.is("ahead", all.force(0, 0), 9);
         edges.is("seven are struck by the eighth", all.force(0, 1), 4);
+        BorrowedWords each = new BorrowedWords();
+        Due.rule(each, "least 9;", 0);
+        Due.rule(each, "slips 2;", 0);
+        Due.rule(each, "strike 1;", 0);
+        Due.rule(each, "strike 0;", 0);
+        edges.is("struck by the later one", each.force(0, 0), 4);
+        edges.is("struck by the earlier one", each.force(1, 0), 0);
         BorrowedWords none = new BorrowedWords();
         Due.rule(none, "least 9;", 999);
         edges.is("a day ahead of all", none.force(0, 998), 4);

@@ -567,7 +567,7 @@ final class EdgesTakenTest {
     }
 
     private static void refusalsInOrder() {
-        edges.says("REFUSALS, of several the first in this order: UNKNOWN, OUTSIDE");
+        edges.says("REFUSALS, of several the first in this order");
         edges.refused("sources", Edges::few, o -> o.sources(3, 4), UNKNOWN);
         edges.refused("reach: UNKNOWN ahead of k", Edges::few, o -> o.reach(3, -1, 0, 0), UNKNOWN);
         edges.refused("reach: UNKNOWN ahead of i", Edges::few, o -> o.reach(-1, 0, -1, 0), UNKNOWN);

@@ -32,6 +32,7 @@ final class EdgesTextsTest {
         countBounds();
         refusalsInOrder();
         aNewObjectHasNone();
+        lastOfAllCalls();
         edges.end();
     }
 
@@ -180,6 +181,12 @@ final class EdgesTextsTest {
         for (int w = 101; w < 200; w++) halves.same(200, w);
         edges.is("two halves", halves.count(5), 200);
         edges.is("the halves become one", halves.same(57, 163), 200);
+        BorrowedWords ends = new BorrowedWords();
+        edges.is("the last and the first word", ends.same(200, 1), 2);
+        edges.is("told already, the first and the last", ends.same(1, 200), NOT);
+        edges.is("by the first", ends.same(1, 100), 3);
+        edges.is("by the last", ends.same(99, 200), 4);
+        edges.is("all four", ends.count(5), 4);
     }
 
     private static void meaningRefusals() {
@@ -435,7 +442,7 @@ final class EdgesTextsTest {
     }
 
     private static void refusalsInOrder() {
-        edges.says("REFUSALS, of several the first in this order: UNKNOWN, OUTSIDE, NOT, FULL");
+        edges.says("REFUSALS, of several the first in this order");
         edges.refused("text: OUTSIDE ahead of FULL, writer", Edges::full, o -> o.text(10, 0), OUTSIDE);
         edges.refused("text: OUTSIDE ahead of FULL, day", Edges::full, o -> o.text(0, -1), OUTSIDE);
         edges.refused("word: UNKNOWN ahead of OUTSIDE", Edges::few, o -> o.word(3, 201), UNKNOWN);
@@ -471,5 +478,16 @@ final class EdgesTextsTest {
         }
         edges.is("the bytes", new BorrowedWords().count(4), 0);
         edges.is("the fault", new BorrowedWords().fault(), NONE);
+    }
+
+    private static void lastOfAllCalls() {
+        edges.says("An object is used for at most 512 calls after it has been made");
+        BorrowedWords b = new BorrowedWords();
+        for (int x = 0; x < 9; x++) b.text(0, x);
+        for (int n = 0; n < 502; n++) b.word(n / 60, 1 + n % 60);
+        edges.is("the 512th", b.word(8, 200), 23);
+        BorrowedWords asked = Edges.few();
+        for (int n = 0; n < 400; n++) asked.word(3, 1);
+        edges.is("after many refused ones", asked.word(2, 1), 1);
     }
 }
