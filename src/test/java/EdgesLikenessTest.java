@@ -310,6 +310,14 @@ final class EdgesLikenessTest {
         like.copy(0, 0, 0, 27);
         like.copy(1, 0, 0, 58);
         pairs("sixty with 59 like ones", like, 59, 0, 1);
+        BorrowedWords others = new BorrowedWords();
+        others.text(0, 0);
+        others.text(0, 0);
+        for (int w = 1; w <= 60; w++) {
+            Due.add(others, 0, w, 0);
+            Due.add(others, 1, 60 + w, 0);
+        }
+        pairs("sixty and sixty others", others, 0, 0, 60);
     }
 
     private static void movedWithoutWords() {
