@@ -5,7 +5,7 @@ final class ModelTest {
     private static final Due due = new Due();
     private static final String[] CLAUSES = {"least 2;", "least 3;", "least2 ;", "slips 1;", "slips 2;", "slips 0;", "mean yes;", "mean no;",
         "common no;", "common yes;", "free 3;", "free 1;", "free 999;", "light 30;", "light 0;", "heavy 40;", "heavy 70;", "strike 0;",
-        "strike 1;", "strike 2;", "strike 5;"};
+        "strike 1;", "strike 2;", "strike 5;", "least 20;", "slips 3;", "free 0;", "light 100;", "heavy 0;", "heavy 100;"};
     private static final String[] BITS = {"least", "slips", "mean", "common", "free", "light", "heavy", "strike", "yes", "no", ";", ";", " ",
         "0", "1", "2", "4", "20", "21", "999", "1000", "x", "~", "-"};
 
@@ -16,6 +16,10 @@ final class ModelTest {
     private final int seed;
 
     private final int longest;
+    private int calls;
+
+    /** The document promises nothing of later calls. */
+    private static final int MOST_CALLS = 512;
 
     private ModelTest(int seed, int longest) {
         this.seed = seed;
@@ -28,7 +32,18 @@ final class ModelTest {
         int runs = args.length > 0 ? Integer.parseInt(args[0]) : 1500;
         for (int seed = 0; seed < runs; seed++) new ModelTest(seed, 12).run();
         for (int seed = 0; seed < runs / 50; seed++) new ModelTest(seed, 60).run();
+        for (int seed = 0; seed < runs / 15; seed++) new ModelTest(-1 - seed, 12).useUp();
+        for (int seed = 0; seed < runs / 150; seed++) new ModelTest(-1 - seed, 60).useUp();
         due.end();
+    }
+
+    /** As many calls on one object as the document promises something of. */
+    private void useUp() {
+        build();
+        while (calls < MOST_CALLS) {
+            if (random.nextInt(3) == 0) change();
+            else ask();
+        }
     }
 
     private void run() {
@@ -40,7 +55,8 @@ final class ModelTest {
     }
 
     private void is(String call, int got, int want) {
-        due.is("seed " + seed + ": " + call, got, want);
+        calls++;
+        if (calls <= MOST_CALLS) due.is("seed " + seed + ": " + call, got, want);
     }
 
     /** A number of 0 to n - 1, seldom one beyond. */
